@@ -157,10 +157,16 @@ final class ComeTest {
     }
 
     private static void gap(RopeDancers x, int d, int other, int over, int under) {
+        gapOne(x, d, other, over, under);
+        gapOne(x, other, d, over, under);
+    }
+
+    private static void gapOne(RopeDancers x, int d, int other, int over, int under) {
+        // other answers between, that none is taken from the call ahead
+        x.upperAfter(0, 0);
         Due.due(x, "P29 upperBetween " + d + " " + other, x.upperBetween(d, other), over, 0);
-        Due.due(x, "P29 upperBetween " + other + " " + d, x.upperBetween(other, d), over, 0);
+        x.upperAfter(0, 0);
         Due.due(x, "P30 lowerBetween " + d + " " + other, x.lowerBetween(d, other), under, 0);
-        Due.due(x, "P30 lowerBetween " + other + " " + d, x.lowerBetween(other, d), under, 0);
     }
 
     private static void between(RopeDancers x) {

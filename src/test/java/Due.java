@@ -23,11 +23,14 @@ final class Due {
     static void due(RopeDancers x, String call, long got, long want, int trouble) {
         due(call, got, want);
         due(call + ", trouble", x.trouble(), trouble);
+        if (trouble == 0) {
+            // else a call that doesn't tell that it wasn't refused would be overlooked
+            x.hall(-1);
+        }
     }
 
     static void due(RopeDancers x, String call, boolean got, boolean want, int trouble) {
-        due(call, got, want);
-        due(call + ", trouble", x.trouble(), trouble);
+        due(x, call, got ? 1 : 0, want ? 1 : 0, trouble);
     }
 
     /** Feeds a text, blanks behind it to a multiple of twenty; what the last feed answered. */

@@ -12,6 +12,8 @@ final class HallTest {
         hallIsTaken();
         hallIsRefused();
         hallBeginsAnew();
+        names();
+        cutShort();
         forms();
         otherFaults();
         firstFault();
@@ -152,6 +154,56 @@ final class HallTest {
         Due.due("P3 anew: slips", x.size(0), 0);
         // names of the HALL before aren't told in this one
         Due.due("P3 the same names once more", Due.hall(x, ONE), 1);
+        Due.due("P3 the first one is not there again", x.size(2), 0);
+        Due.due("P3 the first one is not there again", x.size(3), 0);
+        Due.due("P3 the first one is not there again", x.figures(0), 3);
+        Due.due("P41 the first one is not there again", x.fits(), 1);
+
+        // nor is what a text told ahead of its FAULT
+        Due.due("P3 a fault", Due.hall(x, "hall slips 8;dance b t;dance c r;unsure b 0;unsure c 0;seen b 1 nw se;?"), -1);
+        Due.due("P3 behind a fault", Due.hall(x, "hall slips 0;dance b ttt;unsure b 0"), 1);
+        Due.due("P3 behind a fault", x.size(0), 0);
+        Due.due("P3 behind a fault", x.size(2), 1);
+        Due.due("P3 behind a fault", x.size(3), 0);
+        Due.due("P3 behind a fault", x.figures(0), 3);
+        Due.due("P3 behind a fault, undone ones", Due.hall(x, ONE + ";dance zz t;unsure zz 0;seen zz 1 sw ne"), 2);
+        Due.due("P3 a word to the last letter", x.size(2), 1);
+    }
+
+    private static void names() {
+        RopeDancers x = Due.with("hall slips 0;dance ab t;dance ac tt;dance bb ttt;dance abc tttt;dance a ttttt;"
+            + "unsure abc 3;unsure bb 2;unsure ac 1;unsure a 4;seen ab 1 nw se;seen abc 4 nw ne;seen a 5 nw se;seen bb 3 nw se");
+        Due.due("P3 names alike in part", x.size(1), 5);
+        Due.due("P3 names alike in part", x.judge(), -2);
+        Due.due("P3 names alike in part", x.fits(), 2);
+        Due.due("P3 names alike in part", x.fitAt(1), 4);
+        faulty("hall slips 0;dance ab t;dance ac t;dance |ab t", 3);
+        faulty("hall slips 0;dance waltzing t;dance waltzinh t;dance |waltzing r", 3);
+        faulty("hall slips 0;dance waltzing t;unsure |waltzinh 0", 2);
+        faulty("hall slips 0;dance waltzing t;unsure |zaltzing 0", 2);
+        faulty("hall slips 0;dance waltzing t;unsure |waltz 0", 2);
+        faulty("hall slips 0;dance waltz t;unsure |waltzing 0", 2);
+        faulty("hall slips 0;dance waltz t;unsure |walzt 0", 2);
+    }
+
+    /** What stands on THE TAPE behind the first n bytes is no part of the text. */
+    private static void cutShort() {
+        RopeDancers x = new RopeDancers();
+        Due.feed(x, "hall slips 10;dance abc tur;unsure abc 222 nw");
+        Due.due("P3 cut within a number", x.hall(40), 1);
+        Due.due("P3 cut within a number", x.fitAt(1), 1);
+        Due.feed(x, "hall slips 10;dance abc turrr;;");
+        Due.due("P3 cut within a row", x.hall(27), 1);
+        Due.due("P3 cut within a row", x.figures(0), 3);
+        Due.feed(x, "hall slips 10;dance abc turrr;;");
+        Due.due("P3 cut ahead of a line", x.hall(29), 1);
+        Due.feed(x, "hall slips 10;dance abc turrr;;");
+        Due.due("P3 cut behind a semicolon", x.hall(30), -1);
+        Due.due("P5 cut behind a semicolon", x.where(), 30);
+        Due.feed(x, "hall slips 10;dance abc tur;seen abc 0 nw ne");
+        Due.due("P3 cut within a corner", x.hall(43), -1);
+        Due.due("P4 cut within a corner", x.fault(), 1);
+        Due.due("P5 cut within a corner", x.where(), 42);
     }
 
     /** A text with a | ahead of the place of its FAULT. */
@@ -179,7 +231,7 @@ final class HallTest {
             "seen|", "seen |0", "seen |dance 0 nw ne", "seen a|", "seen a |nw", "seen a 0|", "seen a 0 |0", "seen a 0 |up ne",
             "seen a 0 |nwne", "seen a 0 |n ne", "seen a 0 nw|", "seen a 0 nw |;", "seen a 0 nw |up", "seen a 0 nw |3",
             "seen a 0 nw ne |nw", "seen a 0 nw ne|!", "|\tdance b t", "|\ndance b t", "dance b t|\0", "dance b |T", "dance |\u00e4 t",
-            "dance b t|-"};
+            "dance b t|-", "dance |`", "dance |{", "unsure a |/", "unsure a |:", "dance |@", "dance |[", "dance b t|:", "dance b t|<"};
         for (String line : behind) {
             faulty(ONE + ";" + line, 1);
         }

@@ -65,7 +65,7 @@ final class ToldTest {
             Due.due("P66 size " + what, x.size(what), sizes[what]);
         }
         for (int what : new int[] {7, -1, Integer.MIN_VALUE, Integer.MAX_VALUE}) {
-            Due.due(x, "P66 size " + what, x.size(what), -1, 0);
+            Due.due("P66 size " + what, x.size(what), -1);
         }
         x.upper(9);
         Due.due(x, "P66 leaves trouble", x.size(1), 2, 1);
