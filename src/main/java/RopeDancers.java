@@ -36,7 +36,6 @@ public final class RopeDancers {
     private static final int MANY = 1000000;
 
     private final Tape tape;
-    private final Reader reader;
     private Hall present;
     private Hall spare;
     private final Past past;
@@ -50,7 +49,6 @@ public final class RopeDancers {
 
     public RopeDancers() {
         tape = new Tape();
-        reader = new Reader(tape.bytes);
         present = new Hall();
         spare = new Hall();
         past = new Past();
@@ -73,15 +71,14 @@ public final class RopeDancers {
         tape.take(c);
         tape.take(d);
         tape.take(e);
-        return tape.count;
+        return tape.held;
     }
 
     public int hall(int n) {
-        if (n < 0 || n > tape.count) {
+        if (n < 0 || n > tape.held) {
             return refuse(BAD_NUMBER, NONE);
         }
-        tape.count = 0;
-        if (!reader.read(spare, n)) {
+        if (!tape.read(spare, n)) {
             return refuse(FAULTY, NONE);
         }
         Hall gone = present;
@@ -92,11 +89,11 @@ public final class RopeDancers {
     }
 
     public int fault() {
-        return reader.faultNumber;
+        return tape.faultNumber;
     }
 
     public int where() {
-        return latest == FAULTY ? reader.faultPlace : NONE;
+        return latest == FAULTY ? tape.faultPlace : NONE;
     }
 
     // ---- a tangle
@@ -253,13 +250,7 @@ public final class RopeDancers {
         if (dance == null) {
             return refuse(NO_SUCH, NONE);
         }
-        thought.copy(dance.now);
-        int steps = 0;
-        while (steps < MANY && !thought.isUntied()) {
-            thought.step(thought.untying());
-            steps++;
-        }
-        return accept(steps);
+        return accept(untieBy(dance, MANY));
     }
 
     public int turnsOf(int d) {
@@ -281,16 +272,7 @@ public final class RopeDancers {
 
     public int untieAt(int d, int i) {
         Dance dance = present.danceAt(d);
-        if (dance == null || i < 0) {
-            return refuse(NO_SUCH, NONE);
-        }
-        thought.copy(dance.now);
-        int steps = 0;
-        while (steps < MANY && steps < i && !thought.isUntied()) {
-            thought.step(thought.untying());
-            steps++;
-        }
-        if (steps < i || thought.isUntied()) {
+        if (dance == null || i < 0 || untieBy(dance, i) < i || thought.isUntied()) {
             return refuse(NO_SUCH, NONE);
         }
         return accept(thought.untying());
@@ -738,7 +720,7 @@ public final class RopeDancers {
             case 5:
                 return past.imageCount;
             case 6:
-                return tape.count;
+                return tape.held;
             default:
                 return NONE;
         }
@@ -859,6 +841,17 @@ public final class RopeDancers {
 
     // ---- parts of answers
 
+    /** Leaves in thought what is behind so many CALLS of UNTIE, or at its end; how many they were. */
+    private int untieBy(Dance dance, int calls) {
+        thought.copy(dance.now);
+        int done = 0;
+        while (done < MANY && done < calls && !thought.isUntied()) {
+            thought.step(thought.untying());
+            done++;
+        }
+        return done;
+    }
+
     private int rowFrom(int d, int over, int under) {
         Dance dance = present.danceAt(d);
         return dance == null ? NOT_SO : Ways.fewest(dance.now, over, under);
@@ -947,29 +940,12 @@ public final class RopeDancers {
         }
     }
 
-    /** THE TAPE. */
+    /** THE TAPE, and how a HALL is read from its first bytes, TOKEN by TOKEN. */
     private static final class Tape {
-        private final int[] bytes;
-        private int count;
+        private static final int MOST_BYTES = 600;
+        private static final int BYTES_FED = 20;
 
-        Tape() {
-            bytes = new int[600];
-        }
-
-        boolean hasRoom() {
-            return count + 20 <= bytes.length;
-        }
-
-        void take(int number) {
-            for (int shift = 24; shift >= 0; shift -= 8) {
-                putAt(bytes, count, number >> shift & 255);
-                count++;
-            }
-        }
-    }
-
-    /** Reads a HALL from the first bytes of a tape, token by token. */
-    private static final class Reader {
+        // FAULTS
         private static final int FORM = 1;
         private static final int UNTOLD = 2;
         private static final int TOLD_AGAIN = 3;
@@ -978,6 +954,7 @@ public final class RopeDancers {
         private static final int LACKS = 6;
         private static final int NO_ROW = 7;
 
+        // kinds of TOKENS
         private static final int END = 0;
         private static final int WORD = 1;
         private static final int WHOLE = 2;
@@ -989,6 +966,7 @@ public final class RopeDancers {
         private static final int LONGEST_NAME = 8;
 
         private final int[] text;
+        private int held;
         private int count;
         private int place;
         private int kind;
@@ -999,11 +977,24 @@ public final class RopeDancers {
         private int faultNumber;
         private int faultPlace;
 
-        Reader(int[] text) {
-            this.text = text;
+        Tape() {
+            text = new int[MOST_BYTES];
         }
 
+        boolean hasRoom() {
+            return held + BYTES_FED <= MOST_BYTES;
+        }
+
+        void take(int number) {
+            for (int shift = 24; shift >= 0; shift -= 8) {
+                putAt(text, held, number >> shift & 255);
+                held++;
+            }
+        }
+
+        /** False, and a FAULT, if the first n bytes are no HALL; it is empty then, whatever they are. */
         boolean read(Hall hall, int n) {
+            held = 0;
             count = n;
             place = 0;
             hallTold = false;
@@ -1458,7 +1449,7 @@ public final class RopeDancers {
         private final Tangle now;
 
         Dance() {
-            row = new int[Reader.LONGEST_WORD];
+            row = new int[Tape.LONGEST_WORD];
             now = new Tangle();
         }
 
