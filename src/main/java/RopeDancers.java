@@ -30,6 +30,7 @@ public final class RopeDancers {
     private static final int MOST_DANCED = 60;
     private static final int GREATEST_SEED = 65536;
     private static final int MOST_RUNGS = 200;
+    private static final int MOST_KNOT = 200;
     private static final int MOST_COLOURS = 99;
     private static final int MOST_PRIDE = 9;
     /** Far above the steps of any loop whose end the document doesn't tell. */
@@ -405,7 +406,7 @@ public final class RopeDancers {
     }
 
     public int kinds(int k, boolean mirror) {
-        int bad = numberTrouble(k, 1, MOST_RUNGS);
+        int bad = numberTrouble(k, 1, MOST_KNOT);
         return bad == FINE ? accept(Rings.sorts(k, mirror)) : refuse(bad, NONE);
     }
 

@@ -5,19 +5,22 @@ final class ClosedTest {
     private ClosedTest() {
     }
 
+    /** 2 by 1, -1 by 2, 0 by 1, 1 by 0, 8 by 5. */
+    private static RopeDancers fresh() {
+        return Due.with("hall slips 0;dance a tt;dance b ttr;dance c tu;dance d r;dance e ttrtttrtt");
+    }
+
     public static void main(String[] args) {
-        // 2 by 1, -1 by 2, 0 by 1, 1 by 0, 8 by 5
-        RopeDancers x = Due.with("hall slips 0;dance a tt;dance b ttr;dance c tu;dance d r;dance e ttrtttrtt");
-        knots(x);
-        colours(x);
-        beside(x);
+        knots(fresh());
+        colours(fresh());
+        beside(fresh());
         fives();
         sevens();
         threes();
-        fewest(x);
+        fewest(fresh());
         great();
-        kinds(x);
-        wrong(x);
+        kinds(fresh());
+        wrong(fresh());
         Due.end("ClosedTest");
     }
 

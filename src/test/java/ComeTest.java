@@ -5,18 +5,21 @@ final class ComeTest {
     private ComeTest() {
     }
 
+    /** 2 by 1, 1 by 2, 0 by 1, 1 by 0, 8 by 5. */
+    private static RopeDancers fresh() {
+        return Due.with("hall slips 0;dance a tt;dance b ttrt;dance c tu;dance d r;dance e ttrtttrtt");
+    }
+
     public static void main(String[] args) {
-        // 2 by 1, 1 by 2, 0 by 1, 1 by 0, 8 by 5
-        RopeDancers x = Due.with("hall slips 0;dance a tt;dance b ttrt;dance c tu;dance d r;dance e ttrtttrtt");
-        come(x);
-        noFraction(x);
+        come(fresh());
+        noFraction(fresh());
         atTheBound();
-        reach(x);
-        apart(x);
-        between(x);
+        reach(fresh());
+        apart(fresh());
+        between(fresh());
         greatBetween();
-        rungs(x);
-        wrong(x);
+        rungs(fresh());
+        wrong(fresh());
         Due.end("ComeTest");
     }
 

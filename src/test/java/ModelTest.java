@@ -9,7 +9,7 @@ import java.util.Random;
 
 /** Runs of calls, drawn by fixed seeds, on the class and on the model of the document: all answers are the same. */
 final class ModelTest {
-    private static final int RUNS = 1500;
+    private static final int RUNS = 1700;
     private static final int[] ODD = {Integer.MIN_VALUE, Integer.MAX_VALUE, -100000, -32, 64, 65536, 65537, 10000, -10000, 32, 600, 201, 100, 99};
     private static final String[] NAMES = {"a", "b", "c", "t", "slips", "nw", "dancers", "ballroom"};
     private static final String[] CORNERS = {"nw", "ne", "sw", "se"};
@@ -57,7 +57,7 @@ final class ModelTest {
         log.clear();
         int calls = 0;
         boolean told = false;
-        while (calls < 230) {
+        while (calls < 205) {
             if (calls == 0 && random.nextInt(4) > 0 || random.nextInt(90) == 0) {
                 calls += newHall(random, x, y);
                 told |= x.size(1) > 0;

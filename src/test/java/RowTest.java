@@ -5,17 +5,20 @@ final class RowTest {
     private RowTest() {
     }
 
+    private static RopeDancers fresh() {
+        return Due.with("hall slips 90;dance a ttrtttrtt;dance b tur;dance c t;dance d rtr;dance e uuuuuuuuuuuu;unsure a 0");
+    }
+
     public static void main(String[] args) {
-        RopeDancers x = Due.with("hall slips 90;dance a ttrtttrtt;dance b tur;dance c t;dance d rtr;dance e uuuuuuuuuuuu;unsure a 0");
-        figures(x);
-        after(x);
-        most(x);
-        goes(x);
+        figures(fresh());
+        after(fresh());
+        most(fresh());
+        goes(fresh());
         again();
         traces();
         same();
         rowsStay();
-        wrong(x);
+        wrong(fresh());
         Due.end("RowTest");
     }
 

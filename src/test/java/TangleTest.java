@@ -5,13 +5,16 @@ final class TangleTest {
     private TangleTest() {
     }
 
+    /** 2 by 1, 1 by 2, 0 by 1, 1 by 0, 8 by 5. */
+    private static RopeDancers fresh() {
+        return Due.with("hall slips 0;dance a tt;dance b ttrt;dance c tu;dance d rtuttuu;dance e ttrtttrtt");
+    }
+
     public static void main(String[] args) {
-        // 2 by 1, 1 by 2, 0 by 1, 1 by 0, 8 by 5
-        RopeDancers x = Due.with("hall slips 0;dance a tt;dance b ttrt;dance c tu;dance d rtuttuu;dance e ttrtttrtt");
-        fractions(x);
-        corners(x);
-        wholeParts(x);
-        wrong(x);
+        fractions(fresh());
+        corners(fresh());
+        wholeParts(fresh());
+        wrong(fresh());
         great();
         Due.end("TangleTest");
     }

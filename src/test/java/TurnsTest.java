@@ -3,9 +3,13 @@ final class TurnsTest {
     private TurnsTest() {
     }
 
+    /** 0 by 1, 1 by 1, -1 by 1, 1 by 0, 2 by 1. */
+    private static RopeDancers fresh() {
+        return Due.with("hall slips 0;dance a tu;dance b t;dance c u;dance d r;dance e tt");
+    }
+
     public static void main(String[] args) {
-        // 0 by 1, 1 by 1, -1 by 1, 1 by 0, 2 by 1
-        RopeDancers x = Due.with("hall slips 0;dance a tu;dance b t;dance c u;dance d r;dance e tt");
+        RopeDancers x = fresh();
         game(x, 0, new int[] {0, 0, 2, 2, 2, 2, 2, 2, 2}, new int[] {-2, 0, 0, 0, 0, 0, 0, 0, 0});
         game(x, 1, new int[] {0, 1, 1, 1, 1, 1, 1, 1, 1}, new int[] {-2, 1, 1, 1, 1, 1, 1, 1, 1});
         game(x, 2, new int[] {0, 1, 1, 1, 1, 1, 1, 1, 1}, new int[] {-2, 0, 0, 0, 0, 0, 0, 0, 0});
@@ -23,9 +27,9 @@ final class TurnsTest {
         game(z, 0, new int[9], new int[] {-2, 1, 1, 1, 1, 1, 1, 1, 1});
         z.flip(0);
         game(z, 0, new int[9], new int[] {-2, 0, 0, 0, 0, 0, 0, 0, 0});
-        wrongTurns(x);
-        bowing(x);
-        rests(x);
+        wrongTurns(fresh());
+        bowing(fresh());
+        rests(fresh());
         Due.end("TurnsTest");
     }
 
