@@ -85,6 +85,7 @@ public final class RopeDancers {
         Hall gone = present;
         present = spare;
         spare = gone;
+        present.begin();
         past.forgetAll();
         return accept(present.danceCount);
     }
@@ -1089,7 +1090,6 @@ public final class RopeDancers {
                 }
                 dance.add(figure);
             }
-            dance.walk(dance.count, 0, dance.now);
             return true;
         }
 
@@ -1323,6 +1323,16 @@ public final class RopeDancers {
             danceCount = 0;
             unsureCount = 0;
             seenCount = 0;
+        }
+
+        /** Each TANGLE as behind its whole ROW. */
+        void begin() {
+            for (int d = 0; d < danceCount; d++) {
+                Dance dance = danceAt(d);
+                if (dance != null) {
+                    dance.walk(dance.count, 0, dance.now);
+                }
+            }
         }
 
         Dance danceAt(int d) {
@@ -1790,7 +1800,7 @@ public final class RopeDancers {
         }
 
         /** What who begins can have by so many CALLS, at most 8, so it is no deeper: WON, LOST or 0. */
-        static int bestFor(int over, int under, int calls) {
+        private static int bestFor(int over, int under, int calls) {
             if (calls <= 0 || calls > MOST_TURNS) {
                 return 0;
             }
@@ -1802,7 +1812,7 @@ public final class RopeDancers {
         }
 
         /** What who begins has by this first FIGURE; NOT_CALLED if it can't be called. */
-        static int bestBy(int figure, int over, int under, int calls) {
+        private static int bestBy(int figure, int over, int under, int calls) {
             int nextOver = Tangle.overBy(figure, over, under);
             int nextUnder = Tangle.underBy(figure, over, under);
             if (Tangle.isTooGreat(nextOver, nextUnder)) {

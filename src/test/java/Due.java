@@ -66,6 +66,47 @@ final class Due {
         return x;
     }
 
+    /** A text with a | ahead of the place of its FAULT. */
+    static void faulty(String marked, int number) {
+        int place = marked.indexOf('|');
+        String text = marked.substring(0, place) + marked.substring(place + 1);
+        RopeDancers x = new RopeDancers();
+        int answer = text.isEmpty() ? x.hall(0) : hall(x, text);
+        due(x, "P3 hall of " + marked, answer, -1, 4);
+        due("P4 fault of " + marked, x.fault(), number);
+        due("P5 where of " + marked, x.where(), place);
+    }
+
+    /** A ROW that leads from 0 by 1 to a fraction. */
+    static String row(int over, int under) {
+        if (under == 0) {
+            return "r";
+        }
+        int whole = Math.floorDiv(2 * over + under, 2 * under);
+        int rest = over - whole * under;
+        String twists = whole < 0 ? "u".repeat(-whole) : "t".repeat(whole);
+        return rest == 0 ? twists : row(rest > 0 ? -under : under, Math.abs(rest)) + "r" + twists;
+    }
+
+    /** A new object with a TANGLE for each fraction, named a, b ..; 0 by 1 is danced by tu. */
+    static RopeDancers tangles(int[]... fractions) {
+        StringBuilder text = new StringBuilder("hall slips 0");
+        for (int d = 0; d < fractions.length; d++) {
+            String row = fractions[d][0] == 0 ? "tu" : row(fractions[d][0], fractions[d][1]);
+            text.append(";dance ").append((char) ('a' + d)).append(' ').append(row);
+        }
+        RopeDancers x = with(text.toString());
+        for (int d = 0; d < fractions.length; d++) {
+            is(x, "a TANGLE of " + text, d, fractions[d][0], fractions[d][1]);
+        }
+        return x;
+    }
+
+    static void is(RopeDancers x, String what, int d, int over, int under) {
+        due(what + ", upper " + d, x.upper(d), over);
+        due(what + ", lower " + d, x.lower(d), under);
+    }
+
     static void end(String name) {
         System.out.println(name + ": " + right + " answers right, " + wrong + " wrong");
         if (wrong != 0 || right == 0) {

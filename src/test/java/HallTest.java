@@ -177,13 +177,13 @@ final class HallTest {
         Due.due("P3 names alike in part", x.judge(), -2);
         Due.due("P3 names alike in part", x.fits(), 2);
         Due.due("P3 names alike in part", x.fitAt(1), 4);
-        faulty("hall slips 0;dance ab t;dance ac t;dance |ab t", 3);
-        faulty("hall slips 0;dance waltzing t;dance waltzinh t;dance |waltzing r", 3);
-        faulty("hall slips 0;dance waltzing t;unsure |waltzinh 0", 2);
-        faulty("hall slips 0;dance waltzing t;unsure |zaltzing 0", 2);
-        faulty("hall slips 0;dance waltzing t;unsure |waltz 0", 2);
-        faulty("hall slips 0;dance waltz t;unsure |waltzing 0", 2);
-        faulty("hall slips 0;dance waltz t;unsure |walzt 0", 2);
+        Due.faulty("hall slips 0;dance ab t;dance ac t;dance |ab t", 3);
+        Due.faulty("hall slips 0;dance waltzing t;dance waltzinh t;dance |waltzing r", 3);
+        Due.faulty("hall slips 0;dance waltzing t;unsure |waltzinh 0", 2);
+        Due.faulty("hall slips 0;dance waltzing t;unsure |zaltzing 0", 2);
+        Due.faulty("hall slips 0;dance waltzing t;unsure |waltz 0", 2);
+        Due.faulty("hall slips 0;dance waltz t;unsure |waltzing 0", 2);
+        Due.faulty("hall slips 0;dance waltz t;unsure |walzt 0", 2);
     }
 
     /** What stands on THE TAPE behind the first n bytes is no part of the text. */
@@ -206,23 +206,12 @@ final class HallTest {
         Due.due("P5 cut within a corner", x.where(), 42);
     }
 
-    /** A text with a | ahead of the place of its FAULT. */
-    private static void faulty(String marked, int number) {
-        int place = marked.indexOf('|');
-        String text = marked.substring(0, place) + marked.substring(place + 1);
-        RopeDancers x = new RopeDancers();
-        int answer = text.isEmpty() ? x.hall(0) : Due.hall(x, text);
-        Due.due(x, "P3 hall of " + marked, answer, -1, 4);
-        Due.due("P4 fault of " + marked, x.fault(), number);
-        Due.due("P5 where of " + marked, x.where(), place);
-    }
-
     private static void forms() {
         for (String text : new String[] {"|", "   |", "|;", "|7", "|halls", "|slips", "|hal", "|Hall slips 0", "hall|", "hall  |",
             "hall |slip 3", "hall |slipss 3", "hall |3", "hall |;", "hall slips |x", "hall slips|", "hall slips |;",
             "hall slips |1000", "hall slips |0000", "hall slips 0;|", "hall slips 0; |", "hall slips 0|;;", "hall slips 0 |1",
             "hall slips 0 |dance a t", "hall slips 0|,dance a t", "hall slips 0;|foo", "hall slips 0;|nw"}) {
-            faulty(text.equals("hall slips 0|;;") ? "hall slips 0;|;" : text, 1);
+            Due.faulty(text.equals("hall slips 0|;;") ? "hall slips 0;|;" : text, 1);
         }
         String[] behind = {"dance|", "dance |3", "dance |;", "dance |hall t", "dance |dance t", "dance |unsure t", "dance |seen t",
             "dance |abcdefghi t", "dance |abcdefghijkl t", "dance |abcdefghijklm t", "dance b|", "dance b |7", "dance b |;",
@@ -233,48 +222,48 @@ final class HallTest {
             "seen a 0 nw ne |nw", "seen a 0 nw ne|!", "|\tdance b t", "|\ndance b t", "dance b t|\0", "dance b |T", "dance |\u00e4 t",
             "dance b t|-", "dance |`", "dance |{", "unsure a |/", "unsure a |:", "dance |@", "dance |[", "dance b t|:", "dance b t|<"};
         for (String line : behind) {
-            faulty(ONE + ";" + line, 1);
+            Due.faulty(ONE + ";" + line, 1);
         }
     }
 
     private static void otherFaults() {
         for (String line : new String[] {"unsure |b 0", "seen |b 0 nw ne", "unsure |aa 0", "seen |slips 0 nw ne", "unsure |abcdefgh 9"}) {
-            faulty(ONE + ";" + line, 2);
+            Due.faulty(ONE + ";" + line, 2);
         }
         for (String line : new String[] {"dance |a t", "dance |a", "dance b r;dance |b t", "unsure a 1;unsure a |1", "unsure a 1;unsure a |001",
             "unsure a 2;unsure a 1;unsure a |2", "seen a 3 nw se;seen a |3 nw se", "seen a 0 nw ne;seen a |0", "seen a 0 nw |nw",
             "seen a 0 se |se", "|hall slips 0", "|hall", "dance b t;|hall slips 3"}) {
-            faulty(ONE + ";" + line, 3);
+            Due.faulty(ONE + ";" + line, 3);
         }
-        faulty("hall slips 0;|hall slips 0", 3);
-        faulty("hall slips |101", 4);
-        faulty("hall slips |999;", 4);
+        Due.faulty("hall slips 0;|hall slips 0", 3);
+        Due.faulty("hall slips |101", 4);
+        Due.faulty("hall slips |999;", 4);
         for (String line : new String[] {"unsure a |3", "unsure a |999", "seen a |4", "seen a |5 nw ne", "dance b r;unsure b |1", "dance b r;seen b |2"}) {
-            faulty(ONE + ";" + line, 4);
+            Due.faulty(ONE + ";" + line, 4);
         }
-        faulty(ONE + ";dance b t;dance c t;dance d t;dance e t;|dance a t", 5);
-        faulty(ONE + ";dance b t;unsure a 0;unsure a 1;unsure a 2;unsure b 0;|unsure c", 5);
-        faulty(ONE + ";dance b ttt;seen a 0 nw ne;seen a 1 nw ne;seen a 2 nw ne;seen a 3 nw ne;seen b 0 nw ne;seen b 1 nw ne;|seen", 5);
-        faulty("|dance a t", 6);
-        faulty("|dance", 6);
-        faulty("  |unsure a 0", 6);
-        faulty("|seen a 0 nw ne;hall slips 0", 6);
-        faulty("|dance a t;hall slips 0", 6);
-        faulty("hall slips 0|", 6);
-        faulty("hall slips 0  |", 6);
+        Due.faulty(ONE + ";dance b t;dance c t;dance d t;dance e t;|dance a t", 5);
+        Due.faulty(ONE + ";dance b t;unsure a 0;unsure a 1;unsure a 2;unsure b 0;|unsure c", 5);
+        Due.faulty(ONE + ";dance b ttt;seen a 0 nw ne;seen a 1 nw ne;seen a 2 nw ne;seen a 3 nw ne;seen b 0 nw ne;seen b 1 nw ne;|seen", 5);
+        Due.faulty("|dance a t", 6);
+        Due.faulty("|dance", 6);
+        Due.faulty("  |unsure a 0", 6);
+        Due.faulty("|seen a 0 nw ne;hall slips 0", 6);
+        Due.faulty("|dance a t;hall slips 0", 6);
+        Due.faulty("hall slips 0|", 6);
+        Due.faulty("hall slips 0  |", 6);
         for (String row : new String[] {"x", "tux", "hall", "dance", "T".toLowerCase() + "s", "abcdefghijkl", "nw"}) {
-            faulty(ONE + ";dance b |" + row, 7);
+            Due.faulty(ONE + ";dance b |" + row, 7);
         }
     }
 
     private static void firstFault() {
-        faulty("hall slips |101;dance a x;dance a t;?", 4);
-        faulty(ONE + ";dance |a x;unsure b 0", 3);
-        faulty(ONE + ";unsure |b 9;?", 2);
-        faulty(ONE + ";seen a |9 up up", 4);
-        faulty(ONE + ";seen a 0 ne |ne;seen a 0", 3);
-        faulty("hall slips 0;dance |abcdefghi x", 1);
-        faulty("hall slips 0;dance a |tx?", 7);
+        Due.faulty("hall slips |101;dance a x;dance a t;?", 4);
+        Due.faulty(ONE + ";dance |a x;unsure b 0", 3);
+        Due.faulty(ONE + ";unsure |b 9;?", 2);
+        Due.faulty(ONE + ";seen a |9 up up", 4);
+        Due.faulty(ONE + ";seen a 0 ne |ne;seen a 0", 3);
+        Due.faulty("hall slips 0;dance |abcdefghi x", 1);
+        Due.faulty("hall slips 0;dance a |tx?", 7);
         // a dance with a FAULT isn't told
         RopeDancers x = new RopeDancers();
         Due.due("P4 no dance by a fault", Due.hall(x, "hall slips 0;dance a tx"), -1);
