@@ -31,8 +31,17 @@ final class Refused {
 
     static void outside(RopeDancers x, String call, long answer, int trouble, IntToLongFunction by, int... numbers) {
         for (int number : numbers) {
-            x.hall(-1);
+            otherTrouble(x, trouble);
             Due.due(x, call + " " + number, by.applyAsLong(number), answer, trouble);
+        }
+    }
+
+    /** A call that is refused by another one, or what tells nothing would be overlooked. */
+    private static void otherTrouble(RopeDancers x, int trouble) {
+        if (trouble == 2) {
+            x.upper(-1);
+        } else {
+            x.hall(-1);
         }
     }
 
